@@ -145,6 +145,8 @@ public final class PromisesTest {
     fault("block abcdefghi; stop;", 1, 6);
     fault("units sums 12345 1;", 1, 11);
     fault("units g 1 1;", 1, 6);
+    fault("units at 1 1;", 1, 6);
+    fault("units block 1 1;", 1, 6);
     fault("units jumps 1;", 1, 13);
     fault("A", 1, 0);
     fault("block x; \u00e9", 1, 9);
@@ -441,6 +443,13 @@ public final class PromisesTest {
     C.due("registers stay", x.reg(0), 5);
     C.due("done", x.count(9), 2);
     C.due("clear() again", x.clear(), -1);
+    x.units(0, 3, 2);
+    x.units(3, 3, 2);
+    x.put(7, 5);
+    x.run();
+    x.clear();
+    C.due("units stay", x.kind(0, 0) * 10 + x.kind(3, 0), 33);
+    C.due("cells stay", x.cell(7), 5);
   }
 
   private static void rename() {
@@ -543,6 +552,15 @@ public final class PromisesTest {
     x.run();
     C.due("four at most", x.trace(0, 0), 4);
     C.due("the fifth is its own", x.block(4, 6), 1);
+    x = C.desk("block x; c=1/d; if a<1 goto t else z; block t; b=b+1; if b<3 goto y else z; block y; goto t; block z; stop;");
+    for (int n = 0; n < 3; n++) {
+      C.due("run", x.run(), 1);
+    }
+    x.set(3, 1);
+    C.due("run", x.run(), 0);
+    C.due("x was begun most", x.block(0, 6), 0);
+    C.due("y comes to t oftener than x", x.trace(0, 0), 1);
+    C.due("t, then y", x.member(1, 0) * 10 + x.member(1, 1), 12);
   }
 
   private static void trace() {
@@ -647,6 +665,11 @@ public final class PromisesTest {
     C.due("of what is read only the last", x.needs(0, 0, 3), 0);
     C.due("the exit reads what its if looks at", x.needs(0, 4, 5), 3);
     C.due("the exit is behind all", x.needs(0, 1, 5), 0);
+    x = C.desk("block x; b=a*2; a=c+1; if c<1 goto y else z; block y; a=1+1; a=1+0; f=1+0; stop; block z; f=1+0; stop;");
+    x.rename(false);
+    C.due("register a: read, then set", x.needs(0, 0, 1), 0);
+    C.due("register a is wanted off the trace", x.needs(0, 2, 3), 1);
+    C.due("register f is not", x.needs(0, 2, 5), -2);
   }
 
   private static void needsOfCells() {
@@ -673,6 +696,12 @@ public final class PromisesTest {
     C.due("no item", x.copied(0, 4, 0), -1);
     C.due("no trace", x.copied(3, 0, 0), -1);
     C.due("copied(MAX, MIN, MIN)", x.copied(MAX, MIN, MIN), -1);
+    x = C.desk(COPIED.replace("if", "b=f*5; a=1+0; if"));
+    C.due("two are copied", x.item(0, 4, 7), 2);
+    C.due("copied(0, 4, 0)", x.copied(0, 4, 0), 1);
+    C.due("copied(0, 4, 1)", x.copied(0, 4, 1), 2);
+    C.due("copied(0, 4, 2)", x.copied(0, 4, 2), -1);
+    C.due("copied(0, 4, -1)", x.copied(0, 4, -1), -1);
   }
 
   private static void busy() {
@@ -747,6 +776,11 @@ public final class PromisesTest {
     C.due("199 blocks", x.fast(0), 0);
     C.due("199 blocks", x.fast(2), 199);
     C.due("a", x.left(0), 100);
+    x = C.desk("block x; a=a+1; goto y; block y; if a<100 goto x else z; block z; goto z;");
+    x.run();
+    C.due("a trace of two", x.trace(0, 0), 2);
+    C.due("just 200 blocks", x.fast(2), 200);
+    C.due("all of them in traces", x.fast(3), 100);
   }
 
   private static void fastFaults() {
@@ -824,6 +858,11 @@ public final class PromisesTest {
     C.due("a trace around the loop", x.member(0, 0) * 10 + x.member(0, 1), 12);
     C.due("no more of it", x.trace(0, 0), 2);
     C.due("x leads to z too", x.growth(3), 4);
+    x = C.desk("block x; b=b+1; if b<4 goto y else z; block y; c=c+1; if c<3 goto y else x; block z; stop;");
+    x.run();
+    // y begun 5 times, x 4: the trace y, x
+    C.due("block 0 behind another", x.member(0, 0) * 10 + x.member(0, 1), 10);
+    C.due("block 0 is joined there", x.growth(3), 1);
   }
 
   private static void saved() {
@@ -846,6 +885,15 @@ public final class PromisesTest {
     C.due("three to four: two cycles still", x.saved(0), 0);
     x.units(0, 2, 1);
     C.due("two to three", x.saved(0), 1);
+    String longer = "units sums 1 4;units hard 2 1;units cells 1 1;units jumps 1 5;block x;c=at 1;a=at 1;c=a+f;a=at 1;"
+        + "at 1=d;b=f*3;goto y;block y;e=b+e;f=e-2;b=c*c;at 1=3;e=c+a;d=d+1;stop;";
+    x = C.desk(longer);
+    x.run();
+    x.run();
+    C.due("a list may grow longer by a unit more", x.saved(2), -2);
+    C.due("length", x.trace(0, 2), 7);
+    x.units(2, 2, 1);
+    C.due("it does", x.trace(0, 2), 8);
   }
 
   private static void hold() {
