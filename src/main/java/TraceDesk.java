@@ -1094,13 +1094,13 @@ public final class TraceDesk {
 
     /** All that calls change beside the text and the tape, in one row, so that it is held by one copy. */
     private static final class State {
-        static final int SIZE = 47;
         private static final int CELLS_AT = REGISTERS;
         private static final int BEGUN_AT = CELLS_AT + CELLS;
         private static final int GONE_AT = BEGUN_AT + BLOCKS;
         private static final int UNITS_AT = GONE_AT + BLOCKS * WAYS;
         private static final int LATENCIES_AT = UNITS_AT + KINDS;
         private static final int RENAMES_AT = LATENCIES_AT + KINDS;
+        static final int SIZE = RENAMES_AT + 1;
 
         final int[] row = new int[SIZE];
 

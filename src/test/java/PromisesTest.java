@@ -60,6 +60,7 @@ public final class PromisesTest {
     hold();
     restore();
     count();
+    fullest();
     C.end("PromisesTest");
   }
 
@@ -961,5 +962,36 @@ public final class PromisesTest {
     C.due("count(2)", x.count(2), 0);
     C.due("count(10)", x.count(10), 0);
     C.due("count(4)", x.count(4), 8);
+  }
+
+  /** Four blocks of six lines with three splits: 34 items, as many as can be; eight blocks in all. */
+  private static void fullest() {
+    StringBuilder text = new StringBuilder("units sums 1 6; units hard 1 6; units cells 1 6; units jumps 1 6;");
+    String names = "xyzwvuts";
+    for (int b = 0; b < 8; b++) {
+      text.append("block ").append(names.charAt(b)).append(';').append("a=a*b;b=b+1;c=at 1;at 1=a;d=d/b;e=c-d;");
+      text.append(b < 7 ? "if f<1 goto " + names.charAt(b + 1) + " else s;" : "stop;");
+    }
+    TraceDesk x = C.desk(text.toString());
+    C.due("lines", x.count(1), 48);
+    C.due("traces", x.traces(), 2);
+    C.due("items", x.trace(0, 1), 34);
+    C.due("renamed", x.trace(0, 6), 6);
+    C.due("splits", x.trace(0, 5), 3);
+    C.due("the exit", x.item(0, 33, 0), 3);
+    C.due("no more", x.item(0, 34, 0), -1);
+    C.due("the exit is last", x.item(0, 33, 1), x.trace(0, 2) - 1);
+    C.due("the last line of all", x.needs(0, 32, 33), 0);
+    C.due("no such item", x.needs(0, 33, 34), -1);
+    C.due("plain", x.trace(0, 7), 28 * 6);
+    for (int f = 0; f < 2; f++) {
+      x.set(5, f);
+      C.due("run", x.slow(0), 0);
+      C.due("agrees", x.agrees(), 1);
+      C.due("off", x.fast(4), f);
+      C.due("fast(0)", x.fast(0), 0);
+      x.run();
+    }
+    C.due("eight traces", C.desk(blocks(8)).traces(), 8);
   }
 }

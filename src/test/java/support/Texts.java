@@ -17,13 +17,18 @@ final class Texts {
     }
     int blocks = 1 + random.nextInt(8);
     int most = 1 + random.nextInt(6);
+    boolean onward = random.nextInt(2) == 0;
     for (int b = 0; b < blocks; b++) {
       text.append("block ").append(NAMES[b]).append(';');
       int lines = random.nextInt(most + 1);
       for (int i = 0; i < lines; i++) {
         line(text, random);
       }
-      end(text, random, blocks);
+      if (onward) {
+        endOnward(text, random, b, blocks);
+      } else {
+        end(text, random, blocks);
+      }
     }
     return text.toString();
   }
@@ -51,6 +56,23 @@ final class Texts {
     } else {
       text.append("if ").append(reg(random)).append('<').append(value(random)).append(" goto ")
           .append(NAMES[random.nextInt(blocks)]).append(" else ").append(NAMES[random.nextInt(blocks)]).append(';');
+    }
+  }
+
+  /** Ways that lead on, to the next block most often, so that traces grow long and runs stop. */
+  private static void endOnward(StringBuilder text, Random random, int here, int blocks) {
+    if (here == blocks - 1) {
+      text.append("stop;");
+      return;
+    }
+    String next = NAMES[here + 1];
+    String other = NAMES[random.nextInt(5) == 0 ? random.nextInt(blocks) : here + 1 + random.nextInt(blocks - here - 1)];
+    boolean turned = random.nextInt(3) == 0;
+    if (random.nextInt(6) == 0) {
+      text.append("goto ").append(next).append(';');
+    } else {
+      text.append("if ").append(reg(random)).append('<').append(value(random)).append(" goto ")
+          .append(turned ? other : next).append(" else ").append(turned ? next : other).append(';');
     }
   }
 
