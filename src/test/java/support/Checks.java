@@ -1,15 +1,55 @@
+import java.io.IOException;
+import java.nio.file.Files;
+import java.nio.file.Path;
+
 /** Feeds texts, counts what is not as due, and ends a test. */
 final class Checks {
   private int wrong;
   private int made;
+  /** The words of the document that are tested now; none at first. */
+  private String words = "";
+  private String document = "";
+
+  /** What follows tests these words, which must stand in the document just so, but for its line ends. */
+  void says(String sentence) {
+    words = sentence;
+    if (document.isEmpty()) {
+      document = document();
+    }
+    if (!document.contains(sentence)) {
+      wrong++;
+      System.out.println("the document does not say: " + sentence);
+    }
+  }
+
+  private static String document() {
+    try {
+      return Files.readString(Path.of(System.getProperty("tracedesk.document", "../shared/DOC.md"))).replaceAll("\\s+", " ");
+    } catch (IOException e) {
+      throw new IllegalStateException("the document can't be read", e);
+    }
+  }
 
   void due(String call, long got, long want) {
     made++;
     if (got != want) {
       wrong++;
       if (wrong <= 40) {
-        System.out.println(call + " answered " + got + ", due is " + want);
+        tell(call, String.valueOf(got), String.valueOf(want));
       }
+    }
+  }
+
+  private void tell(String call, String got, String want) {
+    System.out.println((words.isEmpty() ? "" : "[" + words + "] ") + call + " answered " + got + ", due is " + want);
+  }
+
+  /** Rows of answers, told as texts. */
+  void due(String call, String got, String want) {
+    made++;
+    if (!got.equals(want)) {
+      wrong++;
+      tell(call, got, want);
     }
   }
 
